@@ -143,9 +143,7 @@ public final class WarpYard {
         if (order.size >= MOST_EVENTS) {
             return FULL;
         }
-        Event e = newEvent();
-        e.set(part, minute, BY_START, BY_START, starts, x);
-        order.insert(e);
+        Event e = addEvent(part, minute, BY_START, BY_START, starts, x);
         starts++;
         atOnce.add(e, false);
         workOff();
@@ -457,19 +455,18 @@ public final class WarpYard {
         e.firstSent = order.size;
         e.sentCount = doing.sentCount;
         for (int i = 0; i < doing.sentCount; i++) {
-            Event sent = newEvent();
-            sent.set(doing.sentPart[i], doing.sentMinute[i], e.minute, e.part,
+            Event sent = addEvent(doing.sentPart[i], doing.sentMinute[i], e.minute, e.part,
                     doing.sentBefore + i, doing.sentX[i]);
-            order.insert(sent);
             post(sent, false, p.line);
         }
     }
 
-    /** The number is the next one; the caller sets the key and inserts it into the order. */
-    private Event newEvent() {
+    private Event addEvent(int part, int minute, int senderMinute, int sender, int count, int x) {
         Event e = new Event(order.size);
+        e.set(part, minute, senderMinute, sender, count, x);
         if (e.number < MOST_EVENTS) {
             events[e.number] = e;
+            order.insert(e);
         }
         return e;
     }

@@ -180,6 +180,7 @@ public final class WarpYard {
         }
         boolean shadow = onTheWay.shadow[i];
         handOver(i);
+        workOff();
         return shadow ? 2 : 1;
     }
 
@@ -187,6 +188,7 @@ public final class WarpYard {
         int came = 0;
         while (came < MOST_POSTS && onTheWay.size > 0) {
             handOver(0);
+            workOff();
             came++;
         }
         return came;
@@ -422,7 +424,7 @@ public final class WarpYard {
         if (order.size > MOST_EVENTS_TO_STEP) {
             return FULL;
         }
-        perform(e);
+        doEvent(e);
         return e.number;
     }
 
@@ -444,7 +446,7 @@ public final class WarpYard {
         return least != null && e.minute - least.minute > limit;
     }
 
-    private void perform(Event e) {
+    private void doEvent(Event e) {
         Part p = parts[e.part];
         e.keepAhead(p.state, p.done % keepEach == 0);
         doing.perform(p, p.state, e, partCount);
@@ -485,14 +487,8 @@ public final class WarpYard {
     // ---- what comes
 
     private void handOver(int place) {
-        Event e = onTheWay.event[place];
-        boolean shadow = onTheWay.shadow[place];
+        atOnce.add(onTheWay.event[place], onTheWay.shadow[place]);
         onTheWay.removeAt(place);
-        if (shadow) {
-            e.shadow = NO_SHADOW;
-        }
-        atOnce.add(e, shadow);
-        workOff();
     }
 
     private void workOff() {
@@ -959,22 +955,47 @@ public final class WarpYard {
         int failure;
 
         void perform(Part part, State state, Event e, int partCount) {
+            begin(state);
+            int[] cells = state.cells;
+            for (int i = 0; i < part.actCount && failure == 0; i++) {
+                int a = part.a[i] % CELLS;
+                int b = part.b[i] % CELLS;
+                switch (part.act[i]) {
+                    case ADD:
+                        cells[a] += e.x + part.b[i];
+                        break;
+                    case MULTIPLY:
+                        cells[a] = cells[b] * part.c[i] + e.minute;
+                        break;
+                    case SEND:
+                        int to = partCount > 0 ? part.b[i] % partCount : 0;
+                        send(state, a, to, e.minute, part.c[i]);
+                        break;
+                    case DRAW:
+                        draw(part, state, a);
+                        break;
+                    case PASS_OVER:
+                        i += cells[a] % 2 == 0 ? part.b[i] % 4 : 0;
+                        break;
+                    case PRINT:
+                        printed[printCount] = cells[a];
+                        printCount++;
+                        break;
+                    case DIVIDE:
+                        divide(cells, a, b);
+                        break;
+                    default:
+                        measure(cells, a, b);
+                        break;
+                }
+            }
+        }
+
+        private void begin(State state) {
             sentCount = 0;
             sentBefore = state.sent;
             printCount = 0;
             failure = 0;
-            for (int i = 0; i < part.actCount && failure == 0; i++) {
-                if (part.act[i] == PASS_OVER) {
-                    if (state.cells[part.a[i] % CELLS] % 2 == 0) {
-                        i += part.b[i] % 4;
-                    }
-                } else if (part.act[i] == SEND) {
-                    int to = partCount > 0 ? part.b[i] % partCount : 0;
-                    send(state, part.a[i] % CELLS, to, e.minute, part.c[i]);
-                } else {
-                    change(part, i, state, e);
-                }
-            }
         }
 
         private void send(State state, int a, int to, int minute, int later) {
@@ -988,33 +1009,6 @@ public final class WarpYard {
                 sentX[sentCount] = state.cells[a];
                 sentCount++;
                 state.sent++;
-            }
-        }
-
-        private void change(Part part, int i, State state, Event e) {
-            int[] cells = state.cells;
-            int a = part.a[i] % CELLS;
-            int b = part.b[i] % CELLS;
-            switch (part.act[i]) {
-                case ADD:
-                    cells[a] += e.x + part.b[i];
-                    break;
-                case MULTIPLY:
-                    cells[a] = cells[b] * part.c[i] + e.minute;
-                    break;
-                case DRAW:
-                    draw(part, state, a);
-                    break;
-                case PRINT:
-                    printed[printCount] = cells[a];
-                    printCount++;
-                    break;
-                case DIVIDE:
-                    divide(cells, a, b);
-                    break;
-                default:
-                    measure(cells, a, b);
-                    break;
             }
         }
 

@@ -117,6 +117,9 @@ public final class PromisesTest {
         due("tear(0, 3) behind a start", y.tear(0, 3), STATE);
         due("tear(1, 3) behind a start, full", y.tear(1, 3), STATE);
         due("tear(5, 3) behind a start", y.tear(5, 3), BAD);
+        WarpYard z = yard(0);
+        z.start(0, 5, 0);
+        due("tear(0, 3) behind the first start", z.tear(0, 3), STATE);
     }
 
     private static void rule() {
@@ -171,6 +174,20 @@ public final class PromisesTest {
         z.step(0);
         due("start(0, 7, 0) behind one done", z.start(0, 7, 0), STATE);
         due("start(0, 8, 0) behind one done", z.start(0, 8, 0), 1);
+
+        // Event 2 (minute 25) is sent while cell 0 is odd, and is gone when it no longer is.
+        WarpYard w = yard(0, 0, 1);
+        acts(w, 0, act(0, 0, 0, 0), act(4, 0, 1, 0), act(2, 0, 1, 5));
+        w.start(2, 1, 0);
+        w.start(0, 20, 1);
+        w.step(0);
+        w.start(0, 10, 1);
+        w.run(0, 9);
+        w.step(1);
+        due("event(2, 5)", w.event(2, 5), 4);
+        due("floor(0)", w.floor(0), -9);
+        due("start(0, 20, 0), all are done or gone", w.start(0, 20, 0), STATE);
+        due("start(0, 21, 0), ahead of one gone", w.start(0, 21, 0), 5);
     }
 
     /** One part that sends itself eight events with each that it does. */

@@ -64,8 +64,15 @@ public final class SameTest {
         due("a cell that is not settled is another", y.same(), 1);
 
         y = yard();
-        ((int[]) in(element(y, "events", 1), "printed"))[0]++;
-        due("what is out is another", y.same(), 0);
+        y.step(1);
+        ((int[]) in(in(element(y, "parts", 0), "state"), "cells"))[0]++;
+        due("it is settled now", y.same(), 0);
+
+        for (int e = 0; e < 2; e++) {
+            y = yard();
+            ((int[]) in(element(y, "events", e), "printed"))[0]++;
+            due("what event " + e + " printed is another", y.same(), 0);
+        }
 
         y = yard();
         set(element(y, "events", 1), "printCount", 0);

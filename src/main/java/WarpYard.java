@@ -519,6 +519,7 @@ public final class WarpYard {
             e.shadow = SHADOW_WAITS;
             return;
         }
+        // If it isn't done, nothing above it is done there, and nothing is taken back.
         int lowest = goBack(e);
         meet(e);
         sendShadows(e.part, lowest);

@@ -1114,7 +1114,7 @@ public final class WarpYard {
 
         /** What an event sends has a higher key than its own, so the order's places can be walked. */
         void goUpTo(Event least, Part[] parts, int partCount) {
-            for (int i = 0; i < order.size && order.event[i].isBelow(least); i++) {
+            for (int i = 0; i < MOST_EVENTS && i < order.size && order.event[i].isBelow(least); i++) {
                 Event e = order.event[i];
                 doing.perform(parts[e.part], states[e.part], e, partCount);
                 doneCount++;

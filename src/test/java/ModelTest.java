@@ -12,18 +12,23 @@ public final class ModelTest {
         "one key twice", "shadow meets one done", "shadow meets one not done", "shadow waits",
         "taken back by its number alone", "three or more taken back"};
 
+    private static final int[] FAR = {Integer.MIN_VALUE, Integer.MIN_VALUE + 1, -100001, -401, -9, -4, -3, -2, 12, 16, 200,
+        201, 392, 393, 399, 400, 401, 1000, 1001, 100000, 100001, Integer.MAX_VALUE - 1, Integer.MAX_VALUE};
+
     private final Random random;
     private final Model model = new Model();
     private final WarpYard yard = new WarpYard();
     private final List<Call> calls = new ArrayList<>();
     private final int lines;
     private final int reach;
+    private final int sense;
     private boolean wrong;
 
     private ModelTest(long seed) {
         random = new Random(seed);
         lines = 1 + random.nextInt(4);
         reach = 1 + random.nextInt(40);
+        sense = seed % 5 == 0 ? 8 : 60;
     }
 
     private int below(int n) {
@@ -36,10 +41,11 @@ public final class ModelTest {
 
     /** Mostly 0 .. n-1; at times a little beside it, or far off. */
     private int index(int n) {
-        int dice = below(60);
+        int dice = below(sense);
         if (dice == 0) return n;
         if (dice == 1) return -1;
         if (dice == 2) return random.nextInt();
+        if (dice == 3) return FAR[below(FAR.length)];
         return n > 0 ? below(n) : below(3);
     }
 
@@ -79,6 +85,7 @@ public final class ModelTest {
         int floor = Math.max(model.floor(0), 0);
         int minute = below(25) == 0 ? between(99990, 100001) : floor + between(-1, reach);
         int x = below(6) == 0 ? random.nextInt() : between(-9, 30);
+        if (below(4 * sense) == 0) minute = FAR[below(FAR.length)];
         call("start", index(model.parts.size()), minute, x);
     }
 
@@ -93,10 +100,10 @@ public final class ModelTest {
             }
             case 9 -> call("move", index(model.parts.size()), index(lines));
             case 10 -> {
-                if (below(10) == 0) call("limit", below(3) == 0 ? NONE_OR_ODD[below(4)] : below(20));
+                if (below(10) == 0) call("limit", below(3) == 0 ? NONE_OR_ODD[below(4)] : index(20));
             }
             case 11 -> {
-                if (below(4) == 0) call("keep", between(0, 10));
+                if (below(4) == 0) call("keep", below(2) == 0 ? between(0, 10) : index(10));
             }
             default -> call("same");
         }

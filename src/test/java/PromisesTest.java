@@ -1,8 +1,5 @@
 /** Each promise of the document: ordinary inputs, the edges that it names, wrong inputs. */
-public final class PromisesTest {
-    private static final int NONE = -1, BAD = -2, STATE = -3, FULL = -4;
-    private static final int LEAST = Integer.MIN_VALUE, MOST = Integer.MAX_VALUE;
-
+public final class PromisesTest extends Yards {
     private static int wrong = 0;
     private static String where = "";
 
@@ -11,21 +8,6 @@ public final class PromisesTest {
             wrong++;
             System.out.println(where + ": " + call + " answered " + got + ", due is " + want);
         }
-    }
-
-    /** Parts on these lines, with no rules. */
-    private static WarpYard yard(int... lines) {
-        WarpYard y = new WarpYard();
-        for (int line : lines) y.part(line);
-        return y;
-    }
-
-    private static void acts(WarpYard y, int part, int[]... acts) {
-        for (int[] act : acts) y.rule(part, act[0], act[1], act[2], act[3]);
-    }
-
-    private static int[] act(int act, int a, int b, int c) {
-        return new int[] {act, a, b, c};
     }
 
     public static void main(String[] args) {
@@ -190,14 +172,6 @@ public final class PromisesTest {
         due("start(0, 21, 0), ahead of one gone", w.start(0, 21, 0), 5);
     }
 
-    /** One part that sends itself eight events with each that it does. */
-    private static WarpYard breeder(int starts) {
-        WarpYard y = yard(0);
-        for (int i = 0; i < 8; i++) y.rule(0, 2, 0, 0, 20);
-        for (int i = 0; i < starts; i++) y.start(0, 1 + i, 0);
-        return y;
-    }
-
     private static void startFull() {
         WarpYard y = breeder(1);
         due("run(0, 200)", y.run(0, 200), 49);
@@ -294,15 +268,6 @@ public final class PromisesTest {
         due("step(0)", y.step(0), FULL);
         y.limit(3);
         due("step(0), beyond the limit too", y.step(0), STATE);
-    }
-
-    /** A part that does one event at a minute with x. */
-    private static WarpYard one(int minute, int x, int[]... acts) {
-        WarpYard y = yard(0);
-        acts(y, 0, acts);
-        y.start(0, minute, x);
-        due("step(0)", y.step(0), 0);
-        return y;
     }
 
     private static void act0() {
@@ -464,15 +429,6 @@ public final class PromisesTest {
         due("run(3, 200)", y.run(3, 200), 0);
     }
 
-    /** Part 0 on line 0 sends to part 1 on line 1, part 2 on line 2 holds the floor down. */
-    private static WarpYard three() {
-        WarpYard y = yard(0, 1, 2);
-        acts(y, 0, act(0, 0, 0, 0), act(2, 0, 1, 5));
-        acts(y, 1, act(0, 0, 0, 0), act(5, 0, 0, 0));
-        y.start(2, 1, 0);
-        return y;
-    }
-
     private static void deliver() {
         WarpYard y = three();
         y.start(0, 10, 1);
@@ -549,19 +505,6 @@ public final class PromisesTest {
         due("count(5)", y.count(5), 3);
         due("printed(1)", y.printed(1), 9);
         due("same()", y.same(), 1);
-    }
-
-    /** At odd minutes part 0 sends: an event at an even one makes it send the same key again. */
-    private static WarpYard twins() {
-        WarpYard y = yard(0, 1, 2);
-        acts(y, 0, act(0, 0, 0, 0), act(1, 1, 2, 0), act(4, 1, 1, 0), act(2, 0, 1, 5));
-        acts(y, 1, act(0, 0, 0, 0), act(5, 0, 0, 0));
-        y.start(2, 1, 0);
-        y.start(0, 21, 1);
-        y.step(0);              // event 2 to part 1, x 1
-        y.start(0, 10, 5);      // its shadow
-        y.run(0, 2);            // event 4 to part 1, x 6, with event 2's key
-        return y;
     }
 
     private static void oneKeyTwice() {

@@ -31,21 +31,24 @@ public final class SameTest {
         return Array.get(in(object, name), i);
     }
 
-    /** Four settled events, two of them printing, one failing, and one above the floor. */
+    /** Settled events 0 to 4, of which all but the last print and two fail, and one above the floor. */
     private static WarpYard yard() {
         WarpYard y = new WarpYard();
         y.part(0);
+        y.part(1);
         y.part(1);
         y.rule(0, 0, 0, 0, 0);
         y.rule(0, 2, 0, 1, 5);
         y.rule(0, 5, 0, 0, 0);
         y.rule(1, 0, 3, 0, 0);
+        y.rule(1, 5, 3, 0, 0);
         y.rule(1, 6, 3, 0, 0);
         y.start(0, 10, 3);
         y.start(0, 20, 4);
         y.run(0, 2);
+        y.start(2, 22, 0);
         y.deliverAll();
-        y.run(1, 2);
+        y.run(1, 3);
         y.start(1, 30, 1);
         y.start(0, 40, 1);
         y.step(0);
@@ -63,12 +66,16 @@ public final class SameTest {
         ((int[]) in(in(element(y, "parts", 0), "state"), "cells"))[0]++;
         due("a cell that is not settled is another", y.same(), 1);
 
-        y = yard();
-        y.step(1);
-        ((int[]) in(in(element(y, "parts", 0), "state"), "cells"))[0]++;
-        due("it is settled now", y.same(), 0);
+        for (int part = 0; part < 3; part++) {
+            for (int cell = 0; cell < 4; cell++) {
+                y = yard();
+                y.step(1);
+                ((int[]) in(in(element(y, "parts", part), "state"), "cells"))[cell]++;
+                due("all is settled, cell " + cell + " of part " + part + " is another", y.same(), 0);
+            }
+        }
 
-        for (int e = 0; e < 2; e++) {
+        for (int e = 0; e < 4; e++) {
             y = yard();
             ((int[]) in(element(y, "events", e), "printed"))[0]++;
             due("what event " + e + " printed is another", y.same(), 0);
@@ -79,11 +86,19 @@ public final class SameTest {
         due("less is out", y.same(), 0);
 
         y = yard();
+        set(element(y, "events", 3), "minute", 26);
+        due("an event that was sent printed at another minute", y.same(), 0);
+
+        y = yard();
+        set(element(y, "events", 3), "part", 0);
+        due("another part printed", y.same(), 0);
+
+        y = yard();
         set(element(y, "events", 2), "failure", 0);
         due("fewer failed", y.same(), 0);
 
         y = yard();
-        set(element(y, "events", 3), "how", 4);
+        set(element(y, "events", 4), "how", 4);
         due("fewer are settled", y.same(), 0);
 
         y = yard();

@@ -54,8 +54,13 @@ abstract class Edges extends Yards {
         System.out.println(where + ": " + what);
     }
 
-    static void runAll(Class<?> tests) throws IOException {
+    /** Each promise from 1 to the last named has to have a test. */
+    static void runAll(Class<?> tests, int lastPromise) throws IOException {
         List<Method> methods = testsOf(tests);
+        for (int promise = 1; promise <= lastPromise; promise++) {
+            where = "promise " + promise;
+            if (!isNamed(methods, promise)) tellWrong("no test names it");
+        }
         String document = Files.exists(DOCUMENT) ? plain(Files.readString(DOCUMENT)) : null;
         if (document == null) System.out.println("no " + DOCUMENT + ": whether the sentences stand there is not tested");
         for (Method test : methods) {
@@ -68,7 +73,7 @@ abstract class Edges extends Yards {
         if (wrong != 0) System.exit(1);
     }
 
-    static List<Method> testsOf(Class<?> tests) {
+    private static List<Method> testsOf(Class<?> tests) {
         List<Method> methods = new ArrayList<>();
         for (Method m : tests.getDeclaredMethods()) {
             if (m.isAnnotationPresent(Says.class)) methods.add(m);
@@ -76,6 +81,10 @@ abstract class Edges extends Yards {
         methods.sort(Comparator.comparingInt((Method m) -> m.getAnnotation(Says.class).promise())
                 .thenComparing(Method::getName));
         return methods;
+    }
+
+    private static boolean isNamed(List<Method> methods, int promise) {
+        return methods.stream().anyMatch(m -> m.getAnnotation(Says.class).promise() == promise);
     }
 
     private static void run(Method test) {

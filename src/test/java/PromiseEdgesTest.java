@@ -4,7 +4,7 @@ import java.util.function.ToIntFunction;
 /** The edges that the sections 'Promise 1' to 'Promise 24' of the document name: a test for each. */
 public final class PromiseEdgesTest extends Edges {
     public static void main(String[] args) throws IOException {
-        runAll(PromiseEdgesTest.class);
+        runAll(PromiseEdgesTest.class, 24);
     }
 
     /** Parts, events of all kinds, two events and a shadow on the way, a limit that refuses line 0. */

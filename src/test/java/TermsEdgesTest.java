@@ -7,7 +7,7 @@ import java.util.function.Supplier;
  */
 public final class TermsEdgesTest extends Edges {
     public static void main(String[] args) throws IOException {
-        runAll(TermsEdgesTest.class);
+        runAll(TermsEdgesTest.class, 0);
     }
 
     /** A part whose first four acts make its cells these; it did one event at minute 50 with x 3. */

@@ -80,7 +80,7 @@ public final class WarpYard {
 
     private final Doing doing = new Doing();
     private final State spare = new State();
-    private final Printout out = new Printout();
+    private final Walk out = new Walk(order);
     private final Plain plain = new Plain();
 
     private int starts;
@@ -323,8 +323,7 @@ public final class WarpYard {
             case 4:
                 return pairsMet;
             case 5:
-                gatherOut();
-                return out.size;
+                return outCount(settledEnd(leastOpen()));
             case 6:
                 return settledEvents(settledEnd(leastOpen()), false);
             case 7:
@@ -340,16 +339,14 @@ public final class WarpYard {
         if (!isWithin(what, 0, 1)) {
             return BAD;
         }
-        gatherOut();
-        if (!isWithin(i, 0, out.size - 1)) {
+        if (!goToOut(i)) {
             return NONE;
         }
-        return what == 0 ? out.part[i] : out.minute[i];
+        return what == 0 ? out.part : out.minute;
     }
 
     public int printed(int i) {
-        gatherOut();
-        return isWithin(i, 0, out.size - 1) ? out.value[i] : 0;
+        return goToOut(i) ? out.value : 0;
     }
 
     public int failed(int what) {
@@ -381,11 +378,10 @@ public final class WarpYard {
             }
         }
         plain.goUpTo(least, parts, partCount);
-        gatherOut();
         boolean same = !plain.overflowed
                 && plain.doneCount == settledEvents(end, false)
                 && plain.failedCount == settledEvents(end, true)
-                && plain.out.equalTo(out);
+                && isOutOfPlain(end);
         for (int part = 0; part < partCount && same; part++) {
             same = plain.states[part].hasCellsOf(settledState(part, end));
         }
@@ -700,15 +696,40 @@ public final class WarpYard {
         return n;
     }
 
-    private void gatherOut() {
-        int end = settledEnd(leastOpen());
-        out.size = 0;
+    private int outCount(int end) {
+        int n = 0;
         for (int i = 0; i < end; i++) {
-            Event e = order.event[i];
-            if (e.how == DONE) {
-                out.add(e, e.printed, e.printCount);
+            if (order.event[i].how == DONE) {
+                n += order.event[i].printCount;
             }
         }
+        return n;
+    }
+
+    /** Whether there is an i-th that is out: the walk stands there then. */
+    private boolean goToOut(int i) {
+        if (!isWithin(i, 0, MOST_OUT - 1)) {
+            return false;
+        }
+        out.begin(settledEnd(leastOpen()));
+        int ahead = 0;
+        while (ahead < i && out.goOn()) {
+            ahead++;
+        }
+        return out.goOn();
+    }
+
+    private boolean isOutOfPlain(int end) {
+        out.begin(end);
+        plain.out.begin(plain.doneCount);
+        boolean more = true;
+        for (int i = 0; i <= MOST_OUT && more; i++) {
+            more = out.goOn();
+            if (more != plain.out.goOn() || more && !out.isAtEqual(plain.out)) {
+                return false;
+            }
+        }
+        return true;
     }
 
     // ---- classes inside
@@ -1042,33 +1063,50 @@ public final class WarpYard {
         }
     }
 
-    /** What was printed, by which part at which minute. */
-    private static final class Printout {
-        final int[] part = new int[MOST_OUT];
-        final int[] minute = new int[MOST_OUT];
-        final int[] value = new int[MOST_OUT];
-        int size;
+    /**
+     * Goes through what events printed, by keys, and of one event in its order: a list of it would
+     * take more room than all else.
+     */
+    private static final class Walk {
+        int part;
+        int minute;
+        int value;
 
-        void add(Event e, int[] values, int n) {
-            for (int i = 0; i < n && size < MOST_OUT; i++) {
-                part[size] = e.part;
-                minute[size] = e.minute;
-                value[size] = values[i];
-                size++;
-            }
+        private final Order order;
+        private int end;
+        private int place;
+        private int next;
+
+        Walk(Order order) {
+            this.order = order;
         }
 
-        boolean equalTo(Printout other) {
-            if (size != other.size) {
-                return false;
-            }
-            for (int i = 0; i < size; i++) {
-                if (part[i] != other.part[i] || minute[i] != other.minute[i]
-                        || value[i] != other.value[i]) {
-                    return false;
+        /** Through the done events ahead of a place. */
+        void begin(int newEnd) {
+            end = Math.min(newEnd, order.size);
+            place = 0;
+            next = 0;
+        }
+
+        /** Whether there is one more: it stands there then. */
+        boolean goOn() {
+            while (place < end) {
+                Event e = order.event[place];
+                if (e.how == DONE && next < e.printCount) {
+                    part = e.part;
+                    minute = e.minute;
+                    value = e.printed[next];
+                    next++;
+                    return true;
                 }
+                place++;
+                next = 0;
             }
-            return true;
+            return false;
+        }
+
+        boolean isAtEqual(Walk other) {
+            return part == other.part && minute == other.minute && value == other.value;
         }
     }
 
@@ -1076,8 +1114,10 @@ public final class WarpYard {
     private static final class Plain {
         final State[] states = new State[MOST_PARTS];
         final Order order = new Order();
-        final Printout out = new Printout();
+        final Walk out = new Walk(order);
         final Doing doing = new Doing();
+
+        /** Those done are the first ones of the order. */
         int doneCount;
         int failedCount;
         boolean overflowed;
@@ -1093,7 +1133,6 @@ public final class WarpYard {
                 states[i].clear();
             }
             order.size = 0;
-            out.size = 0;
             doneCount = 0;
             failedCount = 0;
             overflowed = false;
@@ -1117,11 +1156,12 @@ public final class WarpYard {
             for (int i = 0; i < MOST_EVENTS && i < order.size && order.event[i].isBelow(least); i++) {
                 Event e = order.event[i];
                 doing.perform(parts[e.part], states[e.part], e, partCount);
+                e.how = DONE;
+                e.takeResults(doing);
                 doneCount++;
-                if (doing.failure != 0) {
+                if (e.failure != 0) {
                     failedCount++;
                 }
-                out.add(e, doing.printed, doing.printCount);
                 for (int k = 0; k < doing.sentCount; k++) {
                     add(doing.sentPart[k], doing.sentMinute[k], e.minute, e.part,
                             doing.sentBefore + k, doing.sentX[k]);

@@ -80,7 +80,7 @@ public final class WarpYard {
 
     private final Doing doing = new Doing();
     private final State spare = new State();
-    private final Walk out = new Walk(order);
+    private final Walk out = new Walk();
     private final Plain plain = new Plain();
 
     private int starts;
@@ -713,10 +713,10 @@ public final class WarpYard {
         }
         out.begin(settledEnd(leastOpen()));
         int ahead = 0;
-        while (ahead < i && out.goOn()) {
+        while (ahead < i && out.goOn(order)) {
             ahead++;
         }
-        return out.goOn();
+        return out.goOn(order);
     }
 
     private boolean isOutOfPlain(int end) {
@@ -724,8 +724,8 @@ public final class WarpYard {
         plain.out.begin(plain.doneCount);
         boolean more = true;
         for (int i = 0; i <= MOST_OUT && more; i++) {
-            more = out.goOn();
-            if (more != plain.out.goOn() || more && !out.isAtEqual(plain.out)) {
+            more = out.goOn(order);
+            if (more != plain.out.goOn(plain.order) || more && !out.isAtEqual(plain.out)) {
                 return false;
             }
         }
@@ -1072,25 +1072,20 @@ public final class WarpYard {
         int minute;
         int value;
 
-        private final Order order;
         private int end;
         private int place;
         private int next;
 
-        Walk(Order order) {
-            this.order = order;
-        }
-
         /** Through the done events ahead of a place. */
         void begin(int newEnd) {
-            end = Math.min(newEnd, order.size);
+            end = newEnd;
             place = 0;
             next = 0;
         }
 
         /** Whether there is one more: it stands there then. */
-        boolean goOn() {
-            while (place < end) {
+        boolean goOn(Order order) {
+            while (place < end && place < order.size) {
                 Event e = order.event[place];
                 if (e.how == DONE && next < e.printCount) {
                     part = e.part;
@@ -1114,7 +1109,7 @@ public final class WarpYard {
     private static final class Plain {
         final State[] states = new State[MOST_PARTS];
         final Order order = new Order();
-        final Walk out = new Walk(order);
+        final Walk out = new Walk();
         final Doing doing = new Doing();
 
         /** Those done are the first ones of the order. */
